@@ -503,7 +503,6 @@ public final class TinyFront {
         private int movedCount = 0;
         private final int[] members = new int[ROWS.length];
         private int memberCount = 0;
-        private final boolean[] opened = new boolean[SYMBOLS];
 
         Table() {
             measureRows();
@@ -607,15 +606,15 @@ public final class TinyFront {
         }
 
         private void openMembers(int set) {
-            Arrays.fill(opened, false);
+            int opened = 0;
             memberCount = coreSize[set];
             for (int i = 0; i < memberCount; i++) {
                 members[i] = cores[set * MOST_CORE + i];
             }
-            for (int i = 0; i < memberCount; i++) {
+            for (int i = 0; i < memberCount && i < members.length; i++) {
                 int symbol = ROWS[members[i]];
-                if (symbol >= KINDS && !opened[symbol]) {
-                    opened[symbol] = true;
+                if (symbol >= KINDS && (opened >> symbol - KINDS & 1) == 0) {
+                    opened |= 1 << symbol - KINDS;
                     addBeginnings(symbol);
                 }
             }
