@@ -16,6 +16,7 @@ public final class CodeTest {
         choices();
         loops();
         wrongOnes();
+        anewCodes();
         longJumps();
         CHECK.end();
     }
@@ -96,18 +97,32 @@ public final class CodeTest {
         }
         x.parse();
         CHECK.due("code(0, 0) behind parse()", x.code(0, 0), -1);
-        // Operands of an earlier code must not shine through.
-        TinyFront y = Check.compiled("x=7;y=8;z=9;");
-        y.clear();
-        Check.feed(y, "print !-!1;");
-        y.lex();
-        y.parse();
-        y.compile();
-        int[] want = {PUSH, 1, 11, 0, 10, 0, 11, 0, OUT, 0, HALT, 0};
-        for (int i = 0; i < 6; i++) {
-            CHECK.due("code(" + i + ", 0) anew", y.code(i, 0), want[2 * i]);
-            CHECK.due("code(" + i + ", 1) anew", y.code(i, 1), want[2 * i + 1]);
+    }
+
+    /** Nothing of an earlier code shines through. */
+    private static void anew(String text, int... want) {
+        TinyFront x = Check.compiled("a=7;b=8;c=9;d=a;e=b;");
+        x.clear();
+        Check.feed(x, text);
+        x.lex();
+        x.parse();
+        CHECK.due("compile() of [" + text + "] anew", x.compile(), want.length / 2);
+        for (int i = 0; i < want.length / 2; i++) {
+            CHECK.due("code(" + i + ", 0) of [" + text + "] anew", x.code(i, 0), want[2 * i]);
+            CHECK.due("code(" + i + ", 1) of [" + text + "] anew", x.code(i, 1), want[2 * i + 1]);
         }
+        CHECK.due("behind all of [" + text + "] anew", x.code(want.length / 2, 0), -1);
+    }
+
+    private static void anewCodes() {
+        anew("", HALT, 0);
+        anew("print !-!1;", PUSH, 1, 11, 0, 10, 0, 11, 0, OUT, 0, HALT, 0);
+        anew("print x&&y;", LOAD, 0, UNLESS, 5, LOAD, 1, TRUTH, 0, JUMP, 6, PUSH, 0,
+            OUT, 0, HALT, 0);
+        anew("print x||y;", LOAD, 0, UNLESS, 4, PUSH, 1, JUMP, 6, LOAD, 1, TRUTH, 0,
+            OUT, 0, HALT, 0);
+        anew("while(x){}", LOAD, 0, UNLESS, 3, JUMP, 0, HALT, 0);
+        anew("if(x){}else{}", LOAD, 0, UNLESS, 3, JUMP, 3, HALT, 0);
     }
 
     private static void longJumps() {

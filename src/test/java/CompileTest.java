@@ -65,6 +65,17 @@ public final class CompileTest {
         compile(("x=" + "1||".repeat(197) + "1;").repeat(6), 6 * (198 + 4 * 197 + 1) + 1);
         compile(("x=" + "1&&".repeat(197) + "1;").repeat(6), 6 * (198 + 4 * 197 + 1) + 1);
         compile("x=1;".repeat(1000), 2001);
+        String many = ("x=" + "1&&".repeat(197) + "1;").repeat(6);
+        TinyFront x = Check.parsed(many);
+        int words = x.compile();
+        CHECK.due("the last word", x.code(words - 1, 0), 16);
+        CHECK.due("the last STORE", x.code(words - 2, 0), 2);
+        CHECK.due("the last PUSH", x.code(words - 3, 0), 0);
+        CHECK.due("the last JUMP", x.code(words - 4, 0), 13);
+        CHECK.due("where it leads", x.code(words - 4, 1), words - 2);
+        CHECK.due("behind the last word", x.code(words, 0), -1);
+        CHECK.due("runCode(100000)", x.runCode(100000), 0);
+        CHECK.due("ran(3)", x.ran(3), words - 1);
         compile("{}".repeat(2000), 1);
     }
 }

@@ -10,6 +10,7 @@ public final class LexTest {
         longNames();
         manySlots();
         everyByte();
+        endsWithTheText();
         forgets();
         CHECK.end();
     }
@@ -109,6 +110,22 @@ public final class LexTest {
             boolean token = letter || b >= '0' && b <= '9' || begins.indexOf(b) >= 0;
             int want = token ? 2 : blanks.indexOf(b) >= 0 ? 1 : -11;
             CHECK.due("lex() of ; and byte " + (int) b, Check.fed(";" + b).lex(), want);
+        }
+    }
+
+    /** Neither the bytes of an earlier text nor the end of all room come to the last token. */
+    private static void endsWithTheText() {
+        String[] ends = {"=", "|", "&", "a", "7", "prin", "#"};
+        int[] want = {1, -10, -10, 1, 1, 1, 0};
+        for (int i = 0; i < ends.length; i++) {
+            TinyFront x = Check.fed(ends[i] + ends[i].charAt(0) + "t?");
+            x.lex();
+            x.clear();
+            Check.feed(x, ends[i]);
+            CHECK.due("lex() of [" + ends[i] + "] behind clear()", x.lex(), want[i]);
+            CHECK.due("its size", x.token(0, 2), want[i] < 0 ? -1 : want[i] * ends[i].length());
+            int last = want[i] < 0 ? -10 - 3999 : want[i];
+            lex(" ".repeat(4000 - ends[i].length()) + ends[i], last);
         }
     }
 

@@ -23,7 +23,8 @@ public final class ModelTest {
         for (int seed = 0; seed < 6000; seed++) {
             Programs programs = new Programs(seed);
             int way = seed % 6;
-            String text = way < 3 ? programs.sound() : way < 5 ? programs.faulty() : programs.heap();
+            String text = way < 3 ? programs.sound()
+                : way < 5 ? programs.faulty() : programs.heap();
             ModelTest test = new ModelTest(text, programs);
             test.compare(programs);
             ran += test.model.parseAnswer >= 0 ? 1 : 0;

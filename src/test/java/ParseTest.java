@@ -86,6 +86,10 @@ public final class ParseTest {
         CHECK.due("parse() again", x.parse(), 3);
         x.feed(' ', 1);
         CHECK.due("parse() behind feed", x.parse(), -3);
+        TinyFront y = Check.lexed("{".repeat(4000));
+        for (int i = 0; i < 4; i++) {
+            CHECK.due("parse() of a deep text again", y.parse(), -4010);
+        }
     }
 
     private static void heights() {

@@ -105,5 +105,10 @@ public final class RunCodeTest {
         TinyFront y = Check.compiled("x=" + "(2-".repeat(196) + "1" + ")".repeat(196) + ";");
         CHECK.due("runCode of another", y.runCode(1000), 0);
         CHECK.due("value(0)", y.value(0), 1);
+        for (int i = 0; i < 4; i++) {
+            CHECK.due("runCode with values left on the pile", y.runCode(190), 1);
+        }
+        CHECK.due("runCode behind them", y.runCode(1000), 0);
+        CHECK.due("value(0) behind them", y.value(0), 1);
     }
 }

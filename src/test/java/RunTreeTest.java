@@ -116,7 +116,8 @@ public final class RunTreeTest {
         TinyFront x = Check.parsed("while(1){" + "{}".repeat(1990) + "}");
         CHECK.due("runTree(100000) over LISTs", x.runTree(100000), 1);
         CHECK.due("ran(1)", x.ran(1), 100000);
-        TinyFront y = Check.parsed("while(1){" + "{".repeat(190) + "x=x+1;" + "}".repeat(190) + "}");
+        String deep = "{".repeat(190) + "x=x+1;" + "}".repeat(190);
+        TinyFront y = Check.parsed("while(1){" + deep + "}");
         CHECK.due("runTree(100000) in deep LISTs", y.runTree(100000), 1);
         CHECK.due("value(0)", y.value(0), 16667 - 1);
         TinyFront z = Check.parsed("x=" + "(1-".repeat(197) + "1" + ")".repeat(197) + ";");
