@@ -487,7 +487,7 @@ public final class TinyFront {
         private static final int MOST_SETS = 64;
         private static final int MOST_CORE = 8;
 
-        // By set and symbol: 0 nothing, ACCEPT, another set to go on to, or less a rule to reduce.
+        // By set and symbol: 0 nothing, ACCEPT, a set to go on to, or (below 0) a rule to reduce.
         private final int[] acts = new int[MOST_SETS * SYMBOLS];
         private final int[] start = new int[RULES];
         private final int[] rowLength = new int[RULES];
@@ -951,8 +951,9 @@ public final class TinyFront {
             return NONE;
         }
 
-        static int round(int loopNode) {
-            return -1 - loopNode;
+        /** From a WHILE to the way of its next round, and back. */
+        static int round(int loopOrWay) {
+            return -1 - loopOrWay;
         }
 
         int into(int way) {
@@ -1280,19 +1281,23 @@ public final class TinyFront {
             int end = tree.behind(exp);
             int at = exp;
             for (int turn = 0; turn < MOST_NODES && at < end && run.isGoing(); turn++) {
-                at = run.begins(at) ? goExp(at) : end;
+                if (!run.begins(at)) {
+                    return;
+                }
+                if (tree.parts[at] == 0) {
+                    at = settle(worthOf(at), at + 1);
+                } else {
+                    waitForParts(at);
+                    at++;
+                }
             }
         }
 
-        private int goExp(int i) {
-            if (tree.parts[i] == 0) {
-                return settle(worthOf(i), i + 1);
-            }
+        private void waitForParts(int exp) {
             if (depth < MOST_HEIGHT) {
-                waiting[depth] = i;
+                waiting[depth] = exp;
                 depth++;
             }
-            return i + 1;
         }
 
         private int worthOf(int i) {
@@ -1360,11 +1365,11 @@ public final class TinyFront {
                 case Code.UNLESS: return pop() != 0 ? at + 1 : operand;
                 case Code.OUT: run.print(pop()); return at + 1;
                 case Code.HALT: run.how = Run.CAME_TO_END; return at;
-                default: calculate(word); return at + 1;
+                default: replaceUppermost(word); return at + 1;
             }
         }
 
-        private void calculate(int word) {
+        private void replaceUppermost(int word) {
             int right = pop();
             int left = isOfOne(word) ? 0 : pop();
             push(run.calculate(word, left, right));
