@@ -5,6 +5,8 @@ import java.util.Random;
 /** Calls by chance in any order and any state: what is known, and what is forgotten when. */
 public final class SequenceTest {
     private static final int MOST_CALLS = 512;
+    // The longest piece of text is fed by six calls.
+    private static final int MOST_CALLS_A_STEP = 6;
     private static final Check CHECK = new Check("calls in any order");
     private static final String[] SOUND = {
         "x=1;", "print x;", "a=a+1;", "while(1){a=a+1;print a;}", "while(a<9){a=a+2;}", "{}", " ",
@@ -40,7 +42,7 @@ public final class SequenceTest {
     public static void main(String[] args) {
         for (int seed = 0; seed < 1500; seed++) {
             SequenceTest test = new SequenceTest(seed);
-            while (test.calls < MOST_CALLS) {
+            while (test.calls <= MOST_CALLS - MOST_CALLS_A_STEP) {
                 test.step();
             }
         }
