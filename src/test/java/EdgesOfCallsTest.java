@@ -438,6 +438,26 @@ public final class EdgesOfCallsTest {
         doc.due("code(2, 1), HALT without an operand", x.code(2, 1), 0);
         TinyFront y = Check.parsed("x=1;");
         doc.due("code(0, 0) before compile()", y.code(0, 0), -1);
+        wordsWithoutAnOperand();
+    }
+
+    private void wordsWithoutAnOperand() {
+        // An earlier code leaves operands behind that must not be told.
+        TinyFront x = Check.compiled("a=77;".repeat(30));
+        x.clear();
+        Check.feed(x, "print !-(a+a-a*a/a%a==a<a);if(a&&a||a){}while(a){break;next;}");
+        x.lex();
+        x.parse();
+        int words = x.compile();
+        int without = 0;
+        for (int i = 0; i < words; i++) {
+            int word = x.code(i, 0);
+            if (word >= 3 && word <= 12 || word >= 15) {
+                without++;
+                doc.due("code(" + i + ", 1), an operand of word " + word, x.code(i, 1), 0);
+            }
+        }
+        doc.due("how many words without an operand", without, 13);
     }
 
     private void inputOfNoSlot() {

@@ -28,6 +28,8 @@ public final class EdgesOfRunsTest {
         test.nothingIsBegun();
         test.fuelOfWords();
         test.codeOfShortCuts();
+        test.codeOfLoops();
+        test.highestExps();
         test.mostFuel();
         test.doc.end();
     }
@@ -251,9 +253,48 @@ public final class EdgesOfRunsTest {
         doc.says("a && b: a, UNLESS f, b, TRUTH, JUMP e, f: PUSH 0, e: .");
         doc.codeNeeds("print 0&&2;", 0, 5);
         doc.codeNeeds("print 1&&2;", 0, 7);
+        words("print 7&&8;", 0, 7, 14, 5, 0, 8, 12, 0, 13, 6, 0, 0, 15, 0, 16, 0);
         doc.says("a || b: a, UNLESS f, PUSH 1, JUMP e, f: b, TRUTH, e: .");
         doc.codeNeeds("print 1||2;", 0, 6);
         doc.codeNeeds("print 0||2;", 0, 6);
+        words("print 7||8;", 0, 7, 14, 4, 0, 1, 13, 6, 0, 8, 12, 0, 15, 0, 16, 0);
+    }
+
+    private void codeOfLoops() {
+        doc.says("BREAK: JUMP e, NEXT: JUMP r, of the innermost one.");
+        words("x=5;while(6){break;next;}", 0, 5, 2, 0, 0, 6, 14, 7, 13, 7, 13, 2, 13, 2, 16, 0);
+        words("while(1){while(2){next;}next;break;}",
+            0, 1, 14, 9, 0, 2, 14, 6, 13, 2, 13, 2, 13, 0, 13, 9, 13, 0, 16, 0);
+        doc.says("Behind all HALT.");
+        words("", 16, 0);
+        words("{}{{}}", 16, 0);
+    }
+
+    /** Words and operands by turns. */
+    private void words(String text, int... want) {
+        TinyFront x = Check.parsed(text);
+        doc.due("compile() of [" + text + "]", x.compile(), want.length / 2);
+        for (int i = 0; i < want.length; i++) {
+            String call = "code(" + i / 2 + ", " + i % 2 + ") of [" + text + "]";
+            doc.due(call, x.code(i / 2, i % 2), want[i]);
+        }
+        doc.due("behind all of [" + text + "]", x.code(want.length / 2, 0), -1);
+    }
+
+    /** The pile holds as many values as the highest tree asks for, run by run. */
+    private void highestExps() {
+        doc.says("both the tree and the code run with so much fuel to the same end");
+        TinyFront x = Check.compiled("x=" + "(3-".repeat(197) + "1" + ")".repeat(197) + ";");
+        for (int turn = 0; turn < 4; turn++) {
+            doc.due("runCode(197), values left on the pile", x.runCode(197), 1);
+            doc.due("runCode(100000)", x.runCode(100000), 0);
+            doc.due("ran(1) by the code", x.ran(1), 397);
+            doc.due("value(0) by the code", x.value(0), 2);
+            doc.due("runTree(197)", x.runTree(197), 1);
+            doc.due("runTree(100000)", x.runTree(100000), 0);
+            doc.due("ran(1) by the tree", x.ran(1), 396);
+            doc.due("value(0) by the tree", x.value(0), 2);
+        }
     }
 
     /** Runs that take all the fuel there can be to their last node or word, and not one more. */

@@ -207,6 +207,12 @@ public final class EdgesOfTokensTest {
         doc.kinds("");
         doc.kinds("x 7 print if else while break next || && == < + - * / % ! = ; ( ) { }",
             1, 2, 3, 4, 5, 6, 7, 8, 9, 10, 11, 12, 13, 14, 15, 16, 17, 18, 19, 20, 21, 22, 23, 24);
+        doc.says("of a NAME its slot, of a NUMBER its worth, else 0 (3)");
+        TinyFront x = Check.lexed("print if else while break next||&&==<+-*/%!=;(){}");
+        for (int i = 0; i < 22; i++) {
+            doc.due("token(" + i + ", 0)", x.token(i, 0), 3 + i);
+            doc.due("token(" + i + ", 3)", x.token(i, 3), 0);
+        }
     }
 
     private void errorWhereNoneBegins() {

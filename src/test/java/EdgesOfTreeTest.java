@@ -46,6 +46,11 @@ public final class EdgesOfTreeTest {
         doc.parse("while(1){", -15);
         doc.parse("break", -11);
         doc.parse("{".repeat(4000), -4010);
+        TinyFront x = Check.lexed("{".repeat(4000));
+        for (int turn = 0; turn < 4; turn++) {
+            doc.due("parse() of the deepest text", x.parse(), -4010);
+            doc.due("reduced(-1) of the deepest text", x.reduced(-1), 4001);
+        }
     }
 
     private void shifted() {
@@ -134,6 +139,23 @@ public final class EdgesOfTreeTest {
         doc.due("node(2, 1) of a NUMBER", x.node(2, 1), 2);
         doc.due("node(4, 1) of an IF", x.node(4, 1), 6);
         doc.due("node(8, 1) of a WHILE", x.node(8, 1), 15);
+        String[] signs = {"||", "&&", "==", "<", "+", "-", "*", "/", "%"};
+        for (String sign : signs) {
+            TinyFront y = Check.parsed("print(1)" + sign + "2;");
+            doc.due("node(1, 1) of a PRINT with " + sign, y.node(1, 1), 0);
+            doc.due("node(2, 1) of " + sign, y.node(2, 1), 4);
+            doc.due("node(3, 1) left of " + sign, y.node(3, 1), 2);
+            doc.due("node(4, 1) right of " + sign, y.node(4, 1), 5);
+        }
+        TinyFront z = Check.parsed("if(-!x){}while(1){break;next;}");
+        doc.due("node(1, 1) of an IF", z.node(1, 1), 0);
+        doc.due("node(2, 1) of -", z.node(2, 1), 2);
+        doc.due("node(3, 1) of !", z.node(3, 1), 3);
+        doc.due("node(4, 1) of a NAME", z.node(4, 1), 4);
+        doc.due("node(9, 1) of a BREAK", z.node(9, 1), 13);
+        doc.due("node(10, 1) of a NEXT", z.node(10, 1), 15);
+        doc.due("node(9, 2), no part", z.node(9, 2), 0);
+        doc.due("node(10, 2), no part", z.node(10, 2), 0);
     }
 
     private void numbersOfNodes() {
