@@ -606,6 +606,14 @@ public final class EdgesOfCallsTest {
         doc.due("ran(1) of the code", x.ran(1), 3);
         x.runTree(1);
         doc.due("ran(0) of the tree", x.ran(0), 1);
+        x.compile();
+        doc.due("ran(0) behind compile()", x.ran(0), 1);
+        x.parse();
+        doc.due("ran(0) behind parse()", x.ran(0), 1);
+        x.input(0, 8);
+        doc.due("value(0) behind input()", x.value(0), 0);
+        x.feed(' ', 1);
+        doc.due("ran(0) behind feed()", x.ran(0), 1);
     }
 
     private void ranThatThereIsNoneOf() {

@@ -78,6 +78,7 @@ public final class EdgesOfRunsTest {
             doc.prints("if(" + v + "){print 1;}else{print 2;}", 1);
             doc.prints("while(" + v + "){print 1;break;}", 1);
             doc.prints("print " + v + "&&" + v + ";print 0||" + v + ";print !" + v + ";", 1, 1, 0);
+            doc.prints("print " + v + "&&0;print 0&&" + v + ";print " + v + "||0;", 0, 0, 1);
         }
         doc.prints("if(0){print 1;}else{print 2;}while(0){print 3;}", 2);
         doc.prints("if(4294967296){print 1;}else{print 2;}while(4294967296){print 3;}", 2);
@@ -97,6 +98,8 @@ public final class EdgesOfRunsTest {
         doc.treeNeeds("print 1||-1;", 0, 3);
         doc.treeNeeds("print 0||-1;", 0, 5);
         doc.treeNeeds("print (0&&--1)+7;", 0, 5);
+        doc.treeNeeds("print -1&&--1;", 0, 7);
+        doc.treeNeeds("print -1||--1;", 0, 4);
     }
 
     private void roundsToZero() {

@@ -74,6 +74,7 @@ final class Meanings {
         prints("print 2&&3;print 2&&0;print 0&&2;print 0&&0;", 1, 0, 0, 0);
         prints("print 2||3;print 2||0;print 0||2;print 0||0;", 1, 1, 1, 0);
         prints("print -1&&-1;print 0||-1;print -1||0;", 1, 1, 1);
+        prints("print -1&&0;print 0&&-1;print 2147483648&&0;", 0, 0, 0);
         prints("print 5-!0;print 5-(2&&3);print 5-(0||2);print 5--1;", 4, 4, 4, 6);
         prints("print 5-(0&&3);print 5-(2||0);print 5-(0||0);print 5-(2&&0);", 5, 4, 5, 5);
         prints("print 1||0&&0;print (1||0)&&0;print 0==0<1;", 1, 0, 0);
