@@ -31,9 +31,27 @@ public final class ModelTest {
             wrong += test.model.parseAnswer < 0 ? 1 : 0;
         }
         System.out.println(ran + " sound texts, " + wrong + " faulty ones");
+        highTexts();
         CHECK.due("enough sound texts", ran > 2000 ? 1 : 0, 1);
         CHECK.due("enough faulty texts", wrong > 1000 ? 1 : 0, 1);
         CHECK.end();
+    }
+
+    private static void highTexts() {
+        int highest = 0;
+        int higher = 0;
+        for (int seed = 0; seed < 400; seed++) {
+            Programs programs = new Programs(10000 + seed);
+            ModelTest test = new ModelTest(programs.high(), programs);
+            test.compare(programs);
+            if (test.model.parseAnswer >= 0) {
+                highest = Math.max(highest, test.model.nodes.get(0).height);
+            }
+            higher += test.model.parseAnswer == -2 ? 1 : 0;
+        }
+        System.out.println("trees up to " + highest + " high, " + higher + " that are higher");
+        CHECK.due("high trees", highest > 190 ? 1 : 0, 1);
+        CHECK.due("trees that are too high", higher > 0 ? 1 : 0, 1);
     }
 
     private void due(String call, int got, int want) {

@@ -2,7 +2,7 @@ import java.util.ArrayList;
 import java.util.List;
 import java.util.Random;
 
-/** Makes texts by chance, with a seed: sound ones, ones with a fault, and heaps of tokens. */
+/** Makes texts by chance, with a seed: sound, faulty or high ones, and heaps of tokens. */
 final class Programs {
     private static final String[] BITS = {
         "a", "b", "x1", "_", "7", "0", "4294967295", "print", "if", "else", "while", "break",
@@ -56,6 +56,61 @@ final class Programs {
             tokens.add(below(60) == 0 ? ODD[below(ODD.length)] : BITS[below(BITS.length)]);
         }
         return joined();
+    }
+
+    /** A tree about as high as one may be, sometimes higher. */
+    String high() {
+        tokens = new ArrayList<>();
+        int deep = below(60);
+        int loops = highStatements(deep);
+        add("print");
+        highExp(below(240 - 2 * deep));
+        add(";");
+        if (loops > 0 && below(4) == 0) {
+            add(below(2) == 0 ? "break" : "next", ";");
+        }
+        for (int i = 0; i < deep; i++) {
+            add("}");
+        }
+        return joined();
+    }
+
+    private int highStatements(int deep) {
+        int loops = 0;
+        for (int i = 0; i < deep; i++) {
+            int way = below(4);
+            if (way == 0) {
+                add("while", "(", "a", "<", String.valueOf(below(9)), ")", "{");
+                add("a", "=", "a", "+", "1", ";");
+                loops++;
+            } else if (way == 1) {
+                add("if", "(", name(), ")", "{", "print", name(), ";", "}", "else", "{");
+            } else if (way == 2) {
+                add("if", "(", "!", name(), ")", "{");
+            } else {
+                add("{");
+            }
+        }
+        return loops;
+    }
+
+    private void highExp(int deep) {
+        List<String> behind = new ArrayList<>();
+        for (int i = 0; i < deep; i++) {
+            int way = below(3);
+            if (way == 0) {
+                add(below(2) == 0 ? "-" : "!");
+            } else if (way == 1) {
+                add("(", name(), SIGNS[below(SIGNS.length)]);
+                behind.addAll(0, List.of(")"));
+            } else {
+                add("(");
+                String number = String.valueOf(below(4));
+                behind.addAll(0, List.of(SIGNS[below(SIGNS.length)], number, ")"));
+            }
+        }
+        add(name());
+        tokens.addAll(behind);
     }
 
     private String joined() {
